@@ -33,24 +33,23 @@ public final class Syntaxspan {
             O_NOT = 16, O_PAIR = 17, O_GROUP = 18;
 
     private final Desk now = new Desk();
-    private final Desk draft = new Desk();
     private final Lines saved = new Lines();
     private final Types types = new Types();
     private final Repair repairs = new Repair();
     private final Runner runner = new Runner();
     private final Completer completer = new Completer();
-    private final Plan plan = new Plan(draft);
+    private final Plan plan = new Plan();
     private final char[] name = new char[LETTERS];
     private int letters;
     private int lookedAt;
 
     public Syntaxspan() {
-        now.refresh();
     }
 
     // ---- edits
 
-    public int insert(int file, int line, int column, char sign) {
+    public int insert(int file, int line, int column, char sign)
+            throws IndexOutOfBoundsException, IllegalArgumentException, IllegalStateException {
         needLine(file, line);
         int row = file * LINES + line;
         if (column < 0 || column > now.lines.size(row)) {
@@ -67,14 +66,16 @@ public final class Syntaxspan {
         return now.lines.size(row);
     }
 
-    public char erase(int file, int line, int column) {
+    public char erase(int file, int line, int column)
+            throws IndexOutOfBoundsException {
         needColumn(file, line, column);
         char sign = now.lines.take(file * LINES + line, column);
         changed(file, line, true);
         return sign;
     }
 
-    public int paste(int file, int line, int fragment) {
+    public int paste(int file, int line, int fragment)
+            throws IndexOutOfBoundsException, IllegalArgumentException, IllegalStateException {
         needLine(file, line);
         if (fragment < 0 || fragment >= FRAGMENTS) {
             throw new IllegalArgumentException();
@@ -91,7 +92,8 @@ public final class Syntaxspan {
         return now.lines.size(row);
     }
 
-    public int clear(int file, int line) {
+    public int clear(int file, int line)
+            throws IndexOutOfBoundsException {
         needLine(file, line);
         int row = file * LINES + line;
         int size = now.lines.size(row);
@@ -100,12 +102,14 @@ public final class Syntaxspan {
         return size;
     }
 
-    public int save(int file) {
+    public int save(int file)
+            throws IndexOutOfBoundsException {
         needFile(file);
         return copyFile(now.lines, saved, file);
     }
 
-    public int back(int file) {
+    public int back(int file)
+            throws IndexOutOfBoundsException {
         needFile(file);
         int count = copyFile(saved, now.lines, file);
         if (count > 0) {
@@ -115,12 +119,14 @@ public final class Syntaxspan {
         return count;
     }
 
-    public char charAt(int file, int line, int column) {
+    public char charAt(int file, int line, int column)
+            throws IndexOutOfBoundsException {
         needColumn(file, line, column);
         return now.lines.sign(file * LINES + line, column);
     }
 
-    public int length(int file, int line) {
+    public int length(int file, int line)
+            throws IndexOutOfBoundsException {
         needLine(file, line);
         return now.lines.size(file * LINES + line);
     }
@@ -131,23 +137,27 @@ public final class Syntaxspan {
         return lookedAt;
     }
 
-    public int tokens(int file) {
+    public int tokens(int file)
+            throws IndexOutOfBoundsException {
         needFile(file);
         return fresh().rows[file].count;
     }
 
-    public int token(int file, int token) {
+    public int token(int file, int token)
+            throws IndexOutOfBoundsException {
         needToken(file, token);
         return fresh().rows[file].told(token);
     }
 
-    public int tokenAnew(int file, int token) {
+    public int tokenAnew(int file, int token)
+            throws IndexOutOfBoundsException {
         needToken(file, token);
         anew();
-        return draft.rows[file].told(token);
+        return plan.draft.rows[file].told(token);
     }
 
-    public int colour(int file, int line, int column) {
+    public int colour(int file, int line, int column)
+            throws IndexOutOfBoundsException {
         needColumn(file, line, column);
         Desk desk = fresh();
         int owner = desk.rows[file].owner(line, column);
@@ -157,70 +167,82 @@ public final class Syntaxspan {
         return colourOf(desk, file, owner);
     }
 
-    public int partner(int file, int token) {
+    public int partner(int file, int token)
+            throws IndexOutOfBoundsException {
         needToken(file, token);
         return fresh().rows[file].partners[token];
     }
 
-    public int fold(int file, int line) {
+    public int fold(int file, int line)
+            throws IndexOutOfBoundsException {
         needLine(file, line);
         return fresh().rows[file].foldedTo(line);
     }
 
     // ---- trees and errors
 
-    public int errors(int file) {
+    public int errors(int file)
+            throws IndexOutOfBoundsException {
         needFile(file);
         return fresh().trees[file].errors;
     }
 
-    public int errorAt(int file, int error) {
+    public int errorAt(int file, int error)
+            throws IndexOutOfBoundsException {
         needError(file, error);
         return now.trees[file].told[error];
     }
 
-    public int repair(int file, int error) {
+    public int repair(int file, int error)
+            throws IndexOutOfBoundsException {
         needError(file, error);
         Tree tree = now.trees[file];
         return repairs.least(now.rows[file], tree.firsts[error], tree.lasts[error]);
     }
 
-    public long tree(int file) {
+    public long tree(int file)
+            throws IndexOutOfBoundsException {
         needFile(file);
         Desk desk = fresh();
         return runner.print(desk.rows[file], desk.trees[file]);
     }
 
-    public int may(int file, int place) {
+    public int may(int file, int place)
+            throws IndexOutOfBoundsException {
         needPlace(file, place);
         return completer.maySet(now, file, place);
     }
 
     // ---- names and types
 
-    public int functions(int file) {
+    public int functions(int file)
+            throws IndexOutOfBoundsException {
         needFile(file);
         return fresh().trees[file].fnCount;
     }
 
-    public int functionAt(int file, int function) {
+    public int functionAt(int file, int function)
+            throws IndexOutOfBoundsException {
         needFunction(file, function);
         Tree tree = now.trees[file];
         return 100 * tree.fnNames[function] + tree.fnParams[function];
     }
 
-    public int binding(int file, int token) {
+    public int binding(int file, int token)
+            throws IndexOutOfBoundsException {
         needToken(file, token);
         return toldId(now.bound[file * STRIDE + token]);
     }
 
-    public int bindingAnew(int file, int token) {
+    public int bindingAnew(int file, int token)
+            throws IndexOutOfBoundsException {
         needToken(file, token);
         anew();
-        return toldId(draft.bound[file * STRIDE + token]);
+        return toldId(plan.draft.bound[file * STRIDE + token]);
     }
 
-    public int typeOf(int file, int token) {
+    public int typeOf(int file, int token)
+            throws IndexOutOfBoundsException {
         needToken(file, token);
         types.findAll(now);
         return types.typeAt(now.bound[file * STRIDE + token]);
@@ -231,7 +253,8 @@ public final class Syntaxspan {
         return types.errors;
     }
 
-    public int typeErrorAt(int error) {
+    public int typeErrorAt(int error)
+            throws IndexOutOfBoundsException {
         types.findAll(fresh());
         if (error < 0 || error >= types.errors) {
             throw new IndexOutOfBoundsException();
@@ -241,7 +264,8 @@ public final class Syntaxspan {
 
     // ---- the spelled name and completions
 
-    public int spell(char letter) {
+    public int spell(char letter)
+            throws IllegalArgumentException, IllegalStateException {
         if (letter < 'a' || letter > 'z') {
             throw new IllegalArgumentException();
         }
@@ -259,13 +283,15 @@ public final class Syntaxspan {
         return had;
     }
 
-    public int completions(int file, int place) {
+    public int completions(int file, int place)
+            throws IndexOutOfBoundsException {
         needPlace(file, place);
         completer.gather(now, file, place, name, letters);
         return completer.count;
     }
 
-    public int completionAt(int file, int place, int which) {
+    public int completionAt(int file, int place, int which)
+            throws IndexOutOfBoundsException {
         needPlace(file, place);
         if (which < 0) {
             throw new IndexOutOfBoundsException();
@@ -276,19 +302,22 @@ public final class Syntaxspan {
 
     // ---- plans
 
-    public int planRename(int file, int token) {
+    public int planRename(int file, int token)
+            throws IndexOutOfBoundsException, IllegalStateException {
         needToken(file, token);
         needRoom();
         return plan.addRename(file, token, name, letters);
     }
 
-    public int planInline(int file, int token) {
+    public int planInline(int file, int token)
+            throws IndexOutOfBoundsException, IllegalStateException {
         needToken(file, token);
         needRoom();
         return plan.addInline(file, token);
     }
 
-    public int planMove(int file, int token, int other) {
+    public int planMove(int file, int token, int other)
+            throws IndexOutOfBoundsException, IllegalArgumentException, IllegalStateException {
         needToken(file, token);
         needFile(other);
         if (file == other) {
@@ -306,18 +335,20 @@ public final class Syntaxspan {
         return plan.against(now);
     }
 
-    public int carryOut() {
+    public int carryOut()
+            throws IllegalStateException {
         if (plan.count == 0 || plan.against(now) != 0) {
             throw new IllegalStateException();
         }
-        now.lines.copyFrom(draft.lines);
+        now.lines.copyFrom(plan.draft.lines);
         now.refresh();
         return plan.wipe();
     }
 
     // ---- running
 
-    public long run(int file, int function, int x, int y) {
+    public long run(int file, int function, int x, int y)
+            throws IndexOutOfBoundsException {
         needFunction(file, function);
         return runner.give(now, file * STRIDE + now.trees[file].fnNames[function], x, y);
     }
@@ -345,28 +376,40 @@ public final class Syntaxspan {
 
     private void needToken(int file, int token) {
         needFile(file);
-        if (token < 0 || token >= fresh().rows[file].count) {
+        if (now.stale) {
+            now.refresh();
+        }
+        if (token < 0 || token >= now.rows[file].count) {
             throw new IndexOutOfBoundsException();
         }
     }
 
     private void needPlace(int file, int place) {
         needFile(file);
-        if (place < 0 || place > fresh().rows[file].count) {
+        if (now.stale) {
+            now.refresh();
+        }
+        if (place < 0 || place > now.rows[file].count) {
             throw new IndexOutOfBoundsException();
         }
     }
 
     private void needError(int file, int error) {
         needFile(file);
-        if (error < 0 || error >= fresh().trees[file].errors) {
+        if (now.stale) {
+            now.refresh();
+        }
+        if (error < 0 || error >= now.trees[file].errors) {
             throw new IndexOutOfBoundsException();
         }
     }
 
     private void needFunction(int file, int function) {
         needFile(file);
-        if (function < 0 || function >= fresh().trees[file].fnCount) {
+        if (now.stale) {
+            now.refresh();
+        }
+        if (function < 0 || function >= now.trees[file].fnCount) {
             throw new IndexOutOfBoundsException();
         }
     }
@@ -394,8 +437,8 @@ public final class Syntaxspan {
     }
 
     private void anew() {
-        draft.lines.copyFrom(now.lines);
-        draft.refresh();
+        plan.draft.lines.copyFrom(now.lines);
+        plan.draft.refresh();
     }
 
     private static int copyFile(Lines from, Lines to, int file) {
@@ -513,7 +556,7 @@ public final class Syntaxspan {
         }
 
         char sign(int row, int column) {
-            return column < 0 || column >= size(row) ? ' ' : signs[row * WIDE + column];
+            return row < 0 || row >= ROWS || column < 0 || column >= sizes[row] ? ' ' : signs[row * WIDE + column];
         }
 
         void put(int row, int column, char sign) {
@@ -884,7 +927,7 @@ public final class Syntaxspan {
         private int[] kinds = new int[0];
         private int count;
         private int at;
-        private Tree tree = new Tree();
+        private Tree tree;
         private final int[] blocks = new int[STRIDE];
         private final int[] starts = new int[STRIDE];
         private int depth;
@@ -897,6 +940,10 @@ public final class Syntaxspan {
         private final int[] adds = new int[STRIDE];
         private final int[] compares = new int[STRIDE];
         private int level;
+
+        Reader(Tree first) {
+            tree = first;
+        }
 
         void read(int[] given, int size, Tree into) {
             kinds = given;
@@ -1238,15 +1285,16 @@ public final class Syntaxspan {
         private final Tree[] trees = new Tree[FILES];
         /** The id to which each token is bound. */
         private final int[] bound = new int[IDS];
-        private final Reader reader = new Reader();
+        private final Reader reader;
         private final Scope scope = new Scope();
-        private boolean stale;
+        private boolean stale = true;
 
         Desk() {
             for (int file = 0; file < FILES; file++) {
                 rows[file] = new Tokens();
                 trees[file] = new Tree();
             }
+            reader = new Reader(trees[0]);
         }
 
         void refresh() {
@@ -1969,7 +2017,7 @@ public final class Syntaxspan {
     private static final class Plan {
         private static final int RENAME = 0, INLINE = 1, MOVE = 2;
 
-        private final Desk draft;
+        private final Desk draft = new Desk();
         private final int[] kinds = new int[CHANGES];
         private final int[] files = new int[CHANGES];
         private final int[] tokens = new int[CHANGES];
@@ -1987,10 +2035,6 @@ public final class Syntaxspan {
         private final char[] text = new char[MOST];
         private int textSize;
         private final char[] line = new char[WIDE];
-
-        Plan(Desk draft) {
-            this.draft = draft;
-        }
 
         void disturb() {
             disturbed = true;
