@@ -185,6 +185,13 @@ public final class PromiseTest {
         is(10, "out of the comment again", 7, x.relexed());
         fails(10, "a call that throws", INDEX, () -> x.insert(0, 9, 0, 'a'));
         is(10, "is none", 7, x.relexed());
+        x.insert(0, 0, 0, '/');
+        x.insert(0, 0, 1, '*');
+        is(10, "all lines", 8, x.relexed());
+        x.insert(0, 0, 2, '/');
+        is(10, "the * of the beginning is none of the end", 1, x.relexed());
+        x.insert(0, 0, 2, '*');
+        is(10, "but another one is", 8, x.relexed());
         x.insert(0, 7, 0, '/');
         x.insert(0, 7, 1, '*');
         is(10, "last line", 1, x.relexed());
@@ -440,6 +447,11 @@ public final class PromiseTest {
         listed(x, 0, 12, 8);
         spell(x, "foo");
         listed(x, 0, 12);
+        Syntaxspan y = with(0, "fn abcdef(abcdefg) {}");
+        spell(y, "abcdef");
+        listed(y, 0, 6, 3, 1);
+        spell(y, "bcdef");
+        listed(y, 0, 6);
         fails(31, "place", INDEX, () -> x.completions(0, x.tokens(0) + 1));
         fails(31, "file", INDEX, () -> x.completions(3, 0));
         fails(32, "place", INDEX, () -> x.completionAt(0, -1, 0));
@@ -499,8 +511,12 @@ public final class PromiseTest {
         x.back(2);
         is(37, "no line was changed", 0, x.reason());
         x.insert(1, 0, 0, 'a');
+        is(37, "insert", 1, x.reason());
+        x.clearPlan();
+        x.planRename(0, 3);
+        is(37, "planned behind it", 0, x.reason());
         x.erase(1, 0, 0);
-        is(37, "a line was changed", 1, x.reason());
+        is(37, "erase", 1, x.reason());
         fails(38, "changed", STATE, x::carryOut);
         is(36, "clear", 1, x.clearPlan());
         x.planRename(0, 3);
@@ -535,6 +551,7 @@ public final class PromiseTest {
         is(37, "a parameter", 2, inlined(x, 3));
         is(37, "a function", 2, inlined(x, 1));
         is(37, "two lines", 2, inlined(with(0, "fn f(x) { let y", "= x; ret y;}"), 7));
+        is(37, "two lines, the name in the second", 2, inlined(with(0, "fn f(x) { let", "y = x; ret y;}"), 7));
         is(37, "set later", 2, inlined(with(0, "fn f(x) { let y=1; y=2;}"), 7));
         is(37, "its expr is set", 2, inlined(with(0, "fn f(x) { let y=x; x=2;}"), 7));
         is(37, "a call", 2, inlined(with(0, "fn f(x) { let y=f(1); }"), 7));
@@ -607,6 +624,11 @@ public final class PromiseTest {
         is(39, "blocks are steps", 0, with(1, k, "ret 1;}", t, "{x=1;}ret 1;}").run(1, 1, 0, 0));
         is(39, "broken ones are none", 1, with(1, k, "ret 1;}", t, "x=;x=;x=1;ret 1;}").run(1, 1, 0, 0));
         is(39, "blocks of an IF are none", 1, with(1, k, "ret 1;}", t, "if 1{ret 1;}}").run(1, 1, 0, 0));
+        Syntaxspan z = with(2, "fn f(x) { ret g(5*x)*10;", "}fn g(a,b,c) {", "ret c*100+b*10+a; }");
+        is(39, "parameters without an expr", 50, z.run(2, 0, 1, 8));
+        is(39, "a third one is 0", 43, z.run(2, 1, 3, 4));
+        is(39, "exprs without a parameter", 7, with(0, "fn f() { ret g(1,2,3)+5;", "} fn g(x) { ret x+x; }")
+            .run(0, 0, 0, 0));
         is(39, "no ret", 0, with(0, "fn f() { let x = 1; }").run(0, 0, 7, 7));
         is(39, "value of last time", 3, with(0, "fn f(x) { if x {let y=x;", "} ret x; }").run(0, 0, 3, 0));
         is(39, "ahead of a value", 0, with(0, "fn f(x) { let y = y;", "ret y+z+q(x=1); }").run(0, 0, 3, 0));
