@@ -428,6 +428,20 @@ public final class BoundaryTest {
         due(7, x, 2, "back", 2);
         lines(7, x, 2);
         due(6, x, 0, "save", 2);
+        Syntaxspan y = in(1, "ab", "", "", "", "", "", "", "cd");
+        more(y, 2, "e", "", "", "", "", "", "", "f");
+        due(6, y, 0, "save", 0);
+        due(7, y, 0, "back", 0);
+        due(6, y, 2, "save", 1);
+        y.erase(1, 0, 0);
+        y.insert(1, 0, 0, 'x');
+        y.erase(1, 7, 1);
+        y.insert(1, 7, 1, 'x');
+        due(7, y, 2, "back", 1);
+        lines(7, y, 1, "ab", "", "", "", "", "", "", "cd");
+        lines(7, y, 2, "e", "", "", "", "", "", "", "f");
+        due(7, y, 2, "back", 2);
+        lines(7, y, 1, "ab", "", "", "", "", "", "", "cd");
     }
 
     // ---- tokens
@@ -468,6 +482,13 @@ public final class BoundaryTest {
         due(10, x, 1, "relexed");
         x.insert(0, 0, 3, '/');
         due(10, x, 8, "relexed");
+        x.erase(0, 0, 2);
+        due(10, x, 8, "relexed");
+        x.clear(0, 0);
+        x.paste(0, 0, 18);
+        due(10, x, 8, "relexed");
+        x.insert(0, 0, 2, '/');
+        due(10, x, 1, "relexed");
         Syntaxspan y = in(2, "/*", "", "", "/*", "", "*/");
         y.clear(2, 0);
         due(10, y, 4, "relexed");
@@ -511,6 +532,9 @@ public final class BoundaryTest {
             20, 1, 0, 21, 0, 0, 23);
         tokensAre(in(0, "123456789012345678901234"), 0, 23, 0, 0);
         tokensAre(in(0, "", "", "", "", "", "", "", "                       7"), 0, 1, 7, 23);
+        tokensAre(in(2, "", "", "", "", "", "", "", "                use fn 9"), 2, 2, 7, 16, 3, 7, 20, 1, 7,
+            23);
+        tokensAre(in(2, "", "", "", "", "", "", "", "                    n no"), 2, 0, 7, 20, 9, 7, 22);
         tokensAre(in(0, "le", "t", "let", "12", "34"), 0, 0, 0, 0, 0, 1, 0, 4, 2, 0, 1, 3, 0, 1, 4, 0);
     }
 
@@ -799,6 +823,15 @@ public final class BoundaryTest {
         broken("ret 1234;", 6, 2, 12);
         broken("ret yes no;", 7, 1, 12);
         broken("ret 1=2;", 7, 2, 12);
+        broken("ret ==1", 6, 2, 12);
+        broken("x=<1", 7, 2, 12);
+        broken("ret yes+;", 8, 1, 12);
+        broken("ret no-;", 8, 1, 12);
+        broken("ret 1*2*3 4;", 11, 1, 12);
+        broken("ret 1==2 3;", 9, 1, 12);
+        broken("ret !x<!3 4;", 11, 1, 12);
+        broken("f(1,(2) 3);", 12, 1, 12);
+        broken("ret g((1)));", 12, 1, 12);
         Syntaxspan x = in(0, "fn f(){ret(1==2)==3;", "ret 1==2+3*!x;", "f(1==2,(3<4),!(5));", "ret f(f())-f()*(f());",
             "if !x{}else{}{}", "let x=((x));", "f();x=f(x,!x*2,f(x));}");
         errorsAre(x, "exprs that can go on");
@@ -853,6 +886,9 @@ public final class BoundaryTest {
         int[] parts = {2, 2, 3, 9, 18, 16, 14, 13, 13, 15, 13, 10, 13, 3, 7, 8, 4, 11, 3, 7, 13, 8, 4, 5, 17, 20, 19, 21,
             13, 13, 13, 13, 13, 12, 4, 1, 2, 0, 3, 6, 13, 4};
         due(20, x, print(parts), "tree", 0);
+        Syntaxspan v = in(2, "fn f(){ret 1+!2*f(3-4,!5", ");f(!1,g(2,!3));x=1-(2<!", "f(3,!4));}");
+        due(20, v, print(2, 0, 3, 9, 19, 13, 21, 16, 13, 14, 20, 13, 13, 16, 13, 15, 7, 16, 13, 14, 13, 16, 13, 15, 8, 6,
+            20, 13, 18, 13, 16, 14, 13, 16, 13, 15, 4), "tree", 2);
         for (int n = 1; n <= 10; n++) {
             Syntaxspan y = new Syntaxspan();
             int[] uses = new int[n];
@@ -973,6 +1009,20 @@ public final class BoundaryTest {
         more(w, 1, "use c;");
         more(w, 2, "fn g(){}");
         binds("through two files", w, 0, 8, -1);
+        binds("a shorter name than the function's", in(0, "fn fo(){f();}"), 0, 5, -1);
+        binds("a longer name than the function's", in(0, "fn f(){fo();}"), 0, 5, -1);
+        binds("a shorter name than the parameter's", in(0, "fn f(xy){x=1;}"), 0, 6, -1);
+        binds("a longer name than the parameter's", in(0, "fn f(x){xy=1;}"), 0, 6, -1);
+        String[] names = {"aa", "ab", "ba", "bb", "cc", "d", "z", "f", "fn", "A", "1", "b,", ""};
+        for (String name : names) {
+            for (int file = 0; file < 3; file++) {
+                Syntaxspan v = more(new Syntaxspan(), file, "use " + name + ";");
+                more(v, (file + 1) % 3, "fn f(){}");
+                more(v, (file + 2) % 3, "fn f(){}");
+                more(v, file, "", "fn g(){f();}");
+                binds("use " + name + " uses nothing", v, file, v.tokens(file) - 5, -1);
+            }
+        }
     }
 
     private static void variables() {
@@ -1036,6 +1086,12 @@ public final class BoundaryTest {
         more(x, 2, "", "fn f(){ret -1;ret !1;}");
         typesAre("file by file", x, 8, 1009, 1012, 1025, 2011);
         typesAre("through the result", in(0, "fn f(){ret g();}", "fn g(){ret no;}fn h(){", "ret f()+1;}"), 26);
+        typesAre("a call behind other parts", in(0, "fn f(x){if x{}ret 1+f(no", ")*f(yes);}"));
+        Syntaxspan y = in(0, "fn f(x,y,z){}", "fn g(){f(1,yes,2);}");
+        typesAre("parameters by calls alone", y);
+        for (int i = 0; i < 4; i++) {
+            due(26, y, i == 0 ? 0 : i == 2 ? 2 : 1, "typeOf", 0, 1 + 2 * i);
+        }
         typesAre("things alike that have no type yet", in(0, "fn f(x,y){x=y;y=1;if x{}", "}"), 17);
     }
 
@@ -1107,6 +1163,12 @@ public final class BoundaryTest {
         listed("the NAME of a parameter", x, 0, 15, 13, 52, 2001, 2013, 1013);
         listed("an empty block", x, 0, 22, 15, 17, 13, 52, 2001, 2013, 1013);
         listed("without USE, behind all", x, 2, 17, 2001, 2013);
+        more(x, 1, "", "use d;use z;use ab;use");
+        listed("a USE behind functions, and some of nothing", x, 1, 28, 1001, 1007, 1013);
+        Syntaxspan y = in(0, "fn f(x){let y=1;}use a;");
+        listed("behind a function", y, 0, 13, 1);
+        listed("in its block", y, 0, 11, 7, 3, 1);
+        listed("in its expr", y, 0, 9, 3, 1);
         spell(x, "z");
         listed("one letter", x, 0, 43, 39, 1013);
         x.spell('z');
@@ -1221,8 +1283,12 @@ public final class BoundaryTest {
     }
 
     private static int inlined(Syntaxspan x, int token) {
+        return inlinedIn(x, 0, token);
+    }
+
+    private static int inlinedIn(Syntaxspan x, int file, int token) {
         x.clearPlan();
-        due(34, x, 1, "planInline", 0, token);
+        due(34, x, 1, "planInline", file, token);
         return x.reason();
     }
 
@@ -1249,6 +1315,15 @@ public final class BoundaryTest {
         inlines(0, 7, "fn f(x){let y=(x)*(1);}");
         inlines(2, 7, "fn f(x){let y=1+x;x=2;}");
         inlines(2, 11, "fn f(x){x=2;let y=1+x;}");
+        inlines(2, 7, "fn f(x){let y=x+1;x=2;}");
+        inlines(2, 9, "fn f(x,z){let y=z+1+x;", "z=1;}");
+        Syntaxspan other = in(2, "fn f(x){let y=q+x;ret y;", "}fn g(x){x=1;}");
+        is(37, "inlining in another file", 0, inlinedIn(other, 2, 7));
+        other.erase(2, 0, 15);
+        other.erase(2, 0, 15);
+        is(37, "inlining of a NAME bound to nothing", 0, inlinedIn(other, 2, 7));
+        due(38, other, 1, "carryOut");
+        lines(38, other, 2, "fn f(x){ret q;", "}fn g(x){x=1;}");
         inlines(0, 7, "fn f(x){let y=1+x;{let x", "=2;x=3;}}fn g(x){x=1;}");
         inlines(0, 7, "fn f(x){let y=q;q=1;", "ret y+q;}");
         inlines(2, 7, "fn f(x){let y=x;{let x=2", ";ret y;}}");
@@ -1309,6 +1384,10 @@ public final class BoundaryTest {
         moves(2, 1, "fn f(){");
         moves(2, 1, "fn f(){", "fn g(){}");
         moves(2, 1, "fn f(){if 1{}", "use a;");
+        moves(2, 2, ";", "fn f(){");
+        moves(2, 2, ";", "fn f(){", "use a;");
+        moves(2, 1, ";", "f", "fn f(){}");
+        moves(0, 3, ";", "f", "fn f(){}");
         moves(2, 1, "fn f(){}}");
         moves(2, 2, ";fn f(){}");
         moves(2, 1, "fn f(){", "}use b;");
@@ -1497,14 +1576,15 @@ public final class BoundaryTest {
     }
 
     private static void changesOfLines() {
-        String[] edits = {"insert 2 7 0 32", "erase 0 0 0", "paste 1 0 3", "clear 0 0", "back 0"};
+        String[] edits = {"insert 2 7 0 32", "erase 0 0 0", "paste 1 0 3", "clear 0 0", "back 0", "clear 0 7",
+            "erase 0 7 0"};
         for (String edit : edits) {
             String[] parts = edit.split(" ");
             int[] given = new int[parts.length - 1];
             for (int i = 0; i < given.length; i++) {
                 given[i] = Integer.parseInt(parts[i + 1]);
             }
-            Syntaxspan x = in(0, "fn f(x){}");
+            Syntaxspan x = in(0, "fn f(x){}", "", "", "", "", "", "", " ");
             spell(x, "y");
             x.planRename(0, 3);
             reasonIs(0, "ahead of " + edit, x);
@@ -1573,6 +1653,13 @@ public final class BoundaryTest {
         Syntaxspan z = in(0, "fn f(){ret!0*100+!1*10+!", "7+yes*4+no;}fn g(a){a=1", "}", "fn h(a,a){ret a;}",
             "fn k(a){{{ret 1;}}ret 2;", "}fn m(){}");
         gives("! gives 1 or 0", 104, z, 0, 0, 0);
+        Syntaxspan w = in(0, "fn f(){}fn g(){ret 5;}", "fn h(a,b,c){ret c*100+a;", "}fn k(){ret 1+(2+(3+4));",
+            "}fn m(a){if a{a=1;}else{", "a=2;}ret a;}");
+        gives("without RET, ahead of another function", 0, w, 0, 0, 0);
+        gives("parts of parts", 10, w, 3, 0, 0);
+        gives("a third parameter is 0, behind another run", 7, w, 2, 7, 8);
+        gives("the first block alone", 1, w, 4, 9, 0);
+        gives("the second block alone", 2, w, 4, 0, 0);
         gives("without RET", 0, z, 1, 7, 7);
         gives("the first of two parameters", 3, z, 2, 3, 4);
         gives("RET in a block", 1, z, 3, 0, 0);
@@ -1582,7 +1669,7 @@ public final class BoundaryTest {
 
     private static void calls() {
         Syntaxspan x = in(0, "fn f(a,b){ret g()*10+a;}", "fn g(a,b){ret a+b+q(a)+q", ";}fn h(){ret g(7,8)*0+",
-            "g(1);}fn k(a){ret g(a,2,", "3);}fn m(a){ret m2+n();}", "fn n(){n=5;let p=n;ret n", ";}");
+            "g(1);}fn k(a){ret g(a,2,", "3);}fn m(a){ret w+n();}", "fn n(){n=5;let p=n;ret n", ";}");
         gives("parameters without an expr", 5, x, 0, 5, 6);
         gives("and without what an earlier call had", 1, x, 2, 0, 0);
         gives("an expr without a parameter", 9, x, 3, 7, 0);
@@ -1630,6 +1717,11 @@ public final class BoundaryTest {
         gives("exprs without a parameter", 1, stepping("fn t(){m(k());k();", "k();ret 1;}fn m(){}"), 1, 0, 0);
         gives("exprs without one are told", 0, stepping("fn t(){m(k());k();", "k();x=1;ret 1;}fn m(){}"), 1, 0, 0);
         gives("exprs of those that give 0", 4, stepping("fn t(){k();k();k();", "x=1;ret q(k())+4;}"), 1, 0, 0);
+        Syntaxspan again = stepping("fn t(){k();k();k();", "x=1;ret 1;}");
+        for (int i = 0; i < 5; i++) {
+            gives("199 steps of each run", 1, again, 0, 0, 0);
+            gives("200 steps of each run", 1, again, 1, 0, 0);
+        }
         Syntaxspan x = in(0, "fn f(){ret g();}", "fn g(){ret h();}fn h(){", "ret m(m(1));}fn m(a){", "ret f()+a;}");
         gives("a fifth function is not run, nor in its exprs", 1, x, 3, 1, 0);
         gives("a fourth one is, twice", 1, x, 0, 1, 0);
@@ -1653,6 +1745,18 @@ public final class BoundaryTest {
         due(39, x, 4 + 3 + 2 + 1, "run", 0, 0, 4, 0);
         due(24, x, 3, "binding", 0, 7);
         due(3, x, 'f' + 0, "erase", 0, 0, 0);
+        Syntaxspan y = in(0, "fn f(x){{let y=x;{", "let z=y;ret z;");
+        for (int i = 0; i < 140; i++) {
+            due(31, y, 4, "completions", 0, 18);
+            due(32, y, 14, "completionAt", 0, 18, 0);
+            due(21, y, set(0, 1, 8, 9, 10, 22), "may", 0, 19);
+        }
+        more(y, 0, "", "", "}ret y+z;}ret y;}");
+        binds("in its block", y, 0, 19, 14);
+        binds("of the block around", y, 0, 23, 8);
+        binds("behind its block", y, 0, 25, -1);
+        binds("behind the other one", y, 0, 29, -1);
+        due(17, y, 0, "errors", 0);
     }
 
     /** Whatever was edited, answers are those of a fresh run. */
@@ -1768,6 +1872,29 @@ public final class BoundaryTest {
         due(20, x, 7, "tree", 0);
         due(11, x, 0, "tokens", 0);
         due(32, x, NONE, "completionAt", 0, 0, 0);
+        Syntaxspan z = in(0, "fn f(){g();}fn g(){}");
+        due(24, z, 11, "binding", 0, 5);
+        z.erase(0, 0, 13);
+        due(24, z, NONE, "binding", 0, 5);
+        due(24, z, NONE, "binding", 0, 11);
+        due(14, z, 5, "colour", 0, 0, 14);
+        z.erase(0, 0, 0);
+        due(24, z, NONE, "binding", 0, 1);
+        due(26, z, 0, "typeOf", 0, 1);
+        due(14, z, 5, "colour", 0, 0, 2);
+        Syntaxspan w = more(in(0, "use b;fn f(){g();}"), 1, "fn g(){}");
+        due(24, w, 1001, "binding", 0, 8);
+        w.clear(0, 0);
+        more(w, 0, "fn b(){g();}");
+        due(24, w, NONE, "binding", 0, 5);
+        due(31, w, 1, "completions", 0, 5);
+        Syntaxspan y = in(0, "fn f(){}fn g(){}");
+        due(14, y, 3, "colour", 0, 0, 11);
+        y.clear(0, 0);
+        more(y, 0, "fn f(x){let y=1;}");
+        due(14, y, 4, "colour", 0, 0, 12);
+        due(35, y, 1, "planMove", 0, 7, 1);
+        reasonIs(2, "a variable where a function was", y);
     }
 
     /** A completion can be asked for without the number of them, and behind that of another place. */

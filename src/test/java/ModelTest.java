@@ -9,6 +9,7 @@ import java.util.PriorityQueue;
 /**
  * Compares the class with a plain model of the document, written apart from it: recursive reading, snapshots of
  * scopes, groups of types, a search for repairs. The runs are made by a fixed row of numbers, so they never differ.
+ * An object is asked at most 512 calls, as the document says: what is asked of each one is drawn.
  */
 public final class ModelTest {
     static final int NAME = 0, NUM = 1, USE = 2, FN = 3, LET = 4, IF = 5, ELSE = 6, RET = 7, YES = 8, NO = 9,
@@ -1222,8 +1223,19 @@ public final class ModelTest {
     static java.util.Random dice = new java.util.Random(1);
     static final Map<Integer, Integer> REASONS = new HashMap<>();
 
+    /** How many calls the object of this run has left. */
+    static int left;
+
     static int roll(int n) {
         return dice.nextInt(n);
+    }
+
+    static boolean spend(int calls) {
+        if (left < calls) {
+            return false;
+        }
+        left -= calls;
+        return true;
     }
 
     static void same(String what, long due, long got, String[][] lines) {
@@ -1372,8 +1384,9 @@ public final class ModelTest {
     }
 
     static void setLine(Syntaxspan e, String[][] lines, int f, int l, String s) {
-        same("clear", lines[f][l].length(), e.clear(f, l), lines);
-        lines[f][l] = "";
+        if (!spend(s.length())) {
+            return;
+        }
         for (int i = 0; i < s.length(); i++) {
             same("insert", i + 1, e.insert(f, l, i, s.charAt(i)), lines);
         }
@@ -1390,6 +1403,9 @@ public final class ModelTest {
     }
 
     static void randomEdit(Syntaxspan e, String[][] lines, String[][] saved) {
+        if (!spend(3)) {
+            return;
+        }
         int f = roll(3);
         int l = roll(8);
         String s = lines[f][l];
@@ -1458,17 +1474,48 @@ public final class ModelTest {
 
     static void compareTokens(Syntaxspan e, String[][] lines, World w, int f) {
         List<Tok> toks = w.lex[f].toks;
-        same("tokens", toks.size(), e.tokens(f), lines);
-        if (toks.size() != e.tokens(f)) {
-            return;
+        if (spend(1)) {
+            same("tokens", toks.size(), e.tokens(f), lines);
         }
+        int[] partner = partners(toks);
+        for (int i = 0; i < 6 && !toks.isEmpty() && spend(3); i++) {
+            int t = roll(toks.size());
+            Tok k = toks.get(t);
+            int due = 10000 * k.cls + 1000 * k.line + k.col;
+            same("token " + f + " " + t, due, e.token(f, t), lines);
+            same("partner", partner[t], e.partner(f, t), lines);
+            if (roll(6) == 0) {
+                same("tokenAnew", due, e.tokenAnew(f, t), lines);
+            }
+        }
+        for (int i = 0; i < 6 && spend(4); i++) {
+            int l = roll(8);
+            int fold = -1;
+            for (int t = toks.size() - 1; t >= 0; t--) {
+                if (toks.get(t).line == l && toks.get(t).cls == 12 && partner[t] >= 0
+                        && toks.get(partner[t]).line > l) {
+                    fold = toks.get(partner[t]).line;
+                }
+            }
+            same("fold", fold, e.fold(f, l), lines);
+            int size = lines[f][l].length();
+            same("length", size, e.length(f, l), lines);
+            if (size > 0) {
+                int c = roll(size);
+                int o = w.lex[f].owner[l][c];
+                int due = o == -1 ? 0 : o == -2 ? 1 : colour(w, f, o);
+                same("colour", due, e.colour(f, l, c), lines);
+                same("charAt", lines[f][l].charAt(c), e.charAt(f, l, c), lines);
+            }
+        }
+    }
+
+    static int[] partners(List<Tok> toks) {
         int[] partner = new int[toks.size()];
         Arrays.fill(partner, -1);
         List<Integer> open = new ArrayList<>();
         for (int t = 0; t < toks.size(); t++) {
             Tok k = toks.get(t);
-            int due = 10000 * k.cls + 1000 * k.line + k.col;
-            same("token " + f + " " + t, due, e.token(f, t), lines);
             if (k.cls == 10 || k.cls == 12) {
                 open.add(t);
             }
@@ -1479,29 +1526,7 @@ public final class ModelTest {
                 open.remove(open.size() - 1);
             }
         }
-        for (int t = 0; t < toks.size(); t++) {
-            same("partner", partner[t], e.partner(f, t), lines);
-            if (roll(30) == 0) {
-                same("tokenAnew", e.token(f, t), e.tokenAnew(f, t), lines);
-            }
-        }
-        for (int l = 0; l < 8; l++) {
-            int fold = -1;
-            for (int t = toks.size() - 1; t >= 0; t--) {
-                if (toks.get(t).line == l && toks.get(t).cls == 12 && partner[t] >= 0
-                        && toks.get(partner[t]).line > l) {
-                    fold = toks.get(partner[t]).line;
-                }
-            }
-            same("fold", fold, e.fold(f, l), lines);
-            for (int c = 0; c < lines[f][l].length(); c++) {
-                int o = w.lex[f].owner[l][c];
-                int due = o == -1 ? 0 : o == -2 ? 1 : colour(w, f, o);
-                same("colour", due, e.colour(f, l, c), lines);
-                same("charAt", lines[f][l].charAt(c), e.charAt(f, l, c), lines);
-            }
-            same("length", lines[f][l].length(), e.length(f, l), lines);
-        }
+        return partner;
     }
 
     static int colour(World w, int f, int t) {
@@ -1584,29 +1609,35 @@ public final class ModelTest {
 
     static void compareTrees(Syntaxspan e, String[][] lines, World w, int f, String name) {
         Parse p = w.parse[f];
-        same("errors", p.errors.size(), e.errors(f), lines);
-        for (int i = 0; i < Math.min(p.errors.size(), e.errors(f)); i++) {
-            int[] er = p.errors.get(i);
-            same("errorAt " + i, er[0], e.errorAt(f, i), lines);
+        if (!spend(3)) {
+            return;
+        }
+        int errors = e.errors(f);
+        same("errors", p.errors.size(), errors, lines);
+        same("tree " + f, w.print(f), e.tree(f), lines);
+        for (int i = 0; i < Math.min(p.errors.size(), errors) && i < 4 && spend(2); i++) {
+            int at = i < 3 ? i : roll(Math.min(p.errors.size(), errors));
+            int[] er = p.errors.get(at);
+            same("errorAt " + at, er[0], e.errorAt(f, at), lines);
             int due = -1;
             if (er[1] >= 0 && er[2] - er[1] < 10) {
                 due = Fixer.least(Arrays.copyOfRange(p.cls, er[1], er[2] + 1));
             }
-            same("repair " + i, due, e.repair(f, i), lines);
+            same("repair " + at, due, e.repair(f, at), lines);
         }
-        same("tree " + f, w.print(f), e.tree(f), lines);
-        for (int i = 0; i < 3; i++) {
+        for (int i = 0; i < 2 && spend(4); i++) {
             int place = roll(p.cls.length + 1);
             same("may " + f + " " + place, may(w, f, place), e.may(f, place), lines);
             List<Integer> due = completions(w, f, place, name);
             same("completions " + f + " " + place + name, due.size(), e.completions(f, place), lines);
-            for (int k = 0; k < due.size() + 2; k++) {
-                same("completionAt", k < due.size() ? due.get(k) : -1, e.completionAt(f, place, k), lines);
+            for (int k = 0; k < 2; k++) {
+                int which = roll(due.size() + 1);
+                same("completionAt", which < due.size() ? due.get(which) : -1, e.completionAt(f, place, which), lines);
             }
         }
         List<Integer> fns = w.functionsOf(f);
         same("functions", fns.size(), e.functions(f), lines);
-        for (int i = 0; i < fns.size() && i < e.functions(f); i++) {
+        for (int i = 0; i < fns.size() && spend(2); i++) {
             int id = fns.get(i);
             same("functionAt", 100 * (id % 1000) + w.fns.get(id).kids.size() - 1, e.functionAt(f, i), lines);
             int x = roll(7) - 2;
@@ -1618,17 +1649,24 @@ public final class ModelTest {
 
     static void compareNames(Syntaxspan e, String[][] lines, World w) {
         for (int f = 0; f < 3; f++) {
-            for (int t = 0; t < w.lex[f].toks.size(); t++) {
+            int size = w.lex[f].toks.size();
+            for (int i = 0; i < 12 && size > 0 && spend(3); i++) {
+                int named = nameToken(w, f, false);
+                int t = named < 0 || roll(6) == 0 ? roll(size) : named;
                 int id = 1000 * f + t;
                 same("binding " + id, w.bound.getOrDefault(id, -1), e.binding(f, t), lines);
-                if (roll(20) == 0) {
+                same("typeOf " + id, w.typeOf(id), e.typeOf(f, t), lines);
+                if (roll(6) == 0) {
                     same("bindingAnew " + id, w.bound.getOrDefault(id, -1), e.bindingAnew(f, t), lines);
                 }
-                same("typeOf " + id, w.typeOf(id), e.typeOf(f, t), lines);
             }
         }
-        same("typeErrors", w.typeErrors.size(), e.typeErrors(), lines);
-        for (int i = 0; i < Math.min(w.typeErrors.size(), e.typeErrors()); i++) {
+        if (!spend(5)) {
+            return;
+        }
+        int errors = e.typeErrors();
+        same("typeErrors", w.typeErrors.size(), errors, lines);
+        for (int i = 0; i < Math.min(w.typeErrors.size(), errors) && i < 4; i++) {
             same("typeErrorAt " + i, w.typeErrors.get(i), e.typeErrorAt(i), lines);
         }
     }
@@ -1653,6 +1691,9 @@ public final class ModelTest {
     }
 
     static void plans(Syntaxspan e, String[][] lines, String[][] saved, String[] spelled) {
+        if (!spend(36)) {
+            return;
+        }
         World w = new World(lines);
         List<Change> plan = new ArrayList<>();
         int n = 1 + roll(3) / (1 + roll(2));
@@ -1726,38 +1767,52 @@ public final class ModelTest {
 
     static void oneRun(int style) {
         Syntaxspan e = new Syntaxspan();
+        left = 512;
         String[][] lines = new String[3][8];
         String[][] saved = new String[3][8];
         for (int f = 0; f < 3; f++) {
             Arrays.fill(lines[f], "");
             Arrays.fill(saved[f], "");
         }
-        for (int f = 0; f < 3; f++) {
-            String[] next = style == 3 ? new String[] {"", "", "", "", "", "", "", ""} : file(style * roll(3));
-            for (int l = 0; l < 8; l++) {
+        int first = roll(3);
+        for (int i = 0; i < 3 && style < 3; i++) {
+            int f = (first + i) % 3;
+            String[] next = file(style * roll(3));
+            for (int l = 0; l < 8 && left > (i < 2 ? 300 : 240); l++) {
                 setLine(e, lines, f, l, next[l]);
             }
         }
         String[] name = {""};
-        for (int round = 0; round < 6; round++) {
-            for (int i = 0; i < (style == 3 ? 12 : round == 0 ? 0 : 2); i++) {
+        for (int round = 0; round < 6 && left > 40; round++) {
+            for (int i = 0; i < (style == 3 ? 8 : round == 0 ? 0 : 2); i++) {
                 randomEdit(e, lines, saved);
             }
-            if (roll(3) == 0) {
+            if (roll(3) == 0 && spend(7)) {
                 name[0] = spell(e);
             }
-            World w = new World(lines);
-            for (int f = 0; f < 3; f++) {
-                compareTokens(e, lines, w, f);
-                compareTrees(e, lines, w, f, name[0]);
-            }
-            compareNames(e, lines, w);
+            compare(e, lines, name[0], roll(4));
             plans(e, lines, saved, name);
         }
     }
 
+    static void compare(Syntaxspan e, String[][] lines, String name, int what) {
+        World w = new World(lines);
+        int first = roll(3);
+        for (int i = 0; i < 2; i++) {
+            int f = (first + i) % 3;
+            if (what == 0) {
+                compareTokens(e, lines, w, f);
+            } else if (what == 1) {
+                compareTrees(e, lines, w, f, name);
+            }
+        }
+        if (what == 2) {
+            compareNames(e, lines, w);
+        }
+    }
+
     public static void main(String[] args) {
-        int runs = args.length > 0 ? Integer.parseInt(args[0]) : 300;
+        int runs = args.length > 0 ? Integer.parseInt(args[0]) : 4000;
         dice = new java.util.Random(args.length > 1 ? Long.parseLong(args[1]) : 7);
         for (int i = 0; i < runs && faults < 12; i++) {
             oneRun(i % 4);
