@@ -449,6 +449,13 @@ public final class BoundaryTest {
     private static void lookedAtLines() {
         Syntaxspan x = new Syntaxspan();
         due(10, x, 0, "relexed");
+        due(10, x, INDEX, "insert", 0, 0, 1, 'a');
+        due(10, x, INDEX, "erase", 0, 0, 0);
+        due(10, x, ARGUMENT, "paste", 0, 0, 24);
+        due(10, x, INDEX, "clear", 3, 0);
+        due(10, x, 0, "save", 0);
+        due(10, x, 0, "back", 0);
+        due(10, x, 0, "relexed");
         x.clear(0, 7);
         due(10, x, 1, "relexed");
         x.paste(0, 0, 18);
