@@ -22,7 +22,11 @@ public final class Syntaxspan {
             T_SEMICOLON = 15, T_ASSIGN = 16, T_SAME = 17, T_LESS = 18, T_PLUS = 19, T_MINUS = 20, T_TIMES = 21,
             T_NOT = 22, T_BAD = 23, T_END = 24;
     /** The signs of the classes 10 and above; the blank keeps the place of ==. */
-    private static final String SIGNS = "(){},;= <+-*!";
+    private static final char[] SIGNS = {'(', ')', '{', '}', ',', ';', '=', ' ', '<', '+', '-', '*', '!'};
+    /** The words of the classes 2 to 9, one behind the other, and where each begins: rows, so that none is made. */
+    private static final char[] WORDS = {'u', 's', 'e', 'f', 'n', 'l', 'e', 't', 'i', 'f', 'e', 'l', 's', 'e',
+        'r', 'e', 't', 'y', 'e', 's', 'n', 'o'};
+    private static final int[] WORD_STARTS = {0, 3, 5, 8, 10, 14, 17, 20, 22};
 
     /** Owners of chars that are in no token. */
     private static final int IN_BLANK = -1, IN_COMMENT = -2;
@@ -497,31 +501,28 @@ public final class Syntaxspan {
         }
     }
 
-    private static String wordText(int kind) {
-        switch (kind) {
-            case T_USE: return "use";
-            case T_FN: return "fn";
-            case T_LET: return "let";
-            case T_IF: return "if";
-            case T_ELSE: return "else";
-            case T_RET: return "ret";
-            case T_YES: return "yes";
-            default: return "no";
-        }
-    }
-
     private static int kindOfWord(char[] signs, int from, int size) {
         for (int kind = T_USE; kind <= T_NO; kind++) {
-            String word = wordText(kind);
-            boolean same = word.length() == size && from >= 0 && from + size <= signs.length;
+            int start = WORD_STARTS[kind - T_USE];
+            int end = WORD_STARTS[kind - T_USE + 1];
+            boolean same = end - start == size && from >= 0 && from + size <= signs.length;
             for (int i = 0; same && i < size; i++) {
-                same = word.charAt(i) == signs[from + i];
+                same = WORDS[start + i] == signs[from + i];
             }
             if (same) {
                 return kind;
             }
         }
         return T_NAME;
+    }
+
+    private static int kindOfSign(char sign) {
+        for (int i = 0; i < SIGNS.length; i++) {
+            if (SIGNS[i] == sign) {
+                return T_OPEN + i;
+            }
+        }
+        return T_BAD;
     }
 
     private static boolean isLetter(char sign) {
@@ -794,11 +795,7 @@ public final class Syntaxspan {
             if (isDigit(first)) {
                 return span > 3 ? T_BAD : T_NUM;
             }
-            if (span == 2) {
-                return T_SAME;
-            }
-            int at = SIGNS.indexOf(first);
-            return at < 0 ? T_BAD : T_OPEN + at;
+            return span == 2 ? T_SAME : kindOfSign(first);
         }
 
         private void pairBrackets() {
